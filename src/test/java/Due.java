@@ -1,14 +1,21 @@
 /** What the tests share: compares answers with those that are due, and ends a test. */
 final class Due {
+    private static String sentence = "";
     private static int wrong = 0;
 
     private Due() {
     }
 
+    /** Names what the document says, in its words, where the checks that follow are about it. */
+    static void sentence(String text) {
+        sentence = text;
+    }
+
     static void is(String call, long got, long want) {
         if (got != want) {
             wrong++;
-            System.out.println(call + " answered " + got + ", due is " + want);
+            System.out.println(call + " answered " + got + ", due is " + want
+                    + " (\"" + sentence + "\")");
         }
     }
 
@@ -23,12 +30,19 @@ final class Due {
         return 64 * (4 * source + key) + time;
     }
 
-    /** An object whose mark follows source 0 alone. */
-    static StreamWindows following0(int kind, int width, int many, int lateness) {
+    /** An object whose mark follows one source alone. */
+    static StreamWindows following(int source, int kind, int width, int many, int lateness) {
         StreamWindows x = new StreamWindows(kind, width, many, lateness);
-        x.idle(1, true);
-        x.idle(2, true);
+        for (int other = 0; other < 3; other++) {
+            if (other != source) {
+                x.idle(other, true);
+            }
+        }
         return x;
+    }
+
+    static StreamWindows following0(int kind, int width, int many, int lateness) {
+        return following(0, kind, width, many, lateness);
     }
 
     /** Appends an event to a source with nothing unread, and reads it. */

@@ -1,8 +1,8 @@
 import java.util.Random;
 
-/** Long runs of mixed calls, each answer compared with that of PlainModel. */
+/** Runs of 512 mixed calls on one object, each answer compared with that of PlainModel. */
 public final class ModelTest {
-    private static final int RUNS = 1500;
+    private static final int RUNS = 3000;
     private static final int CALLS = 512;
 
     // A fixed seed, so that the same runs are made each time.
@@ -10,9 +10,10 @@ public final class ModelTest {
     private StreamWindows x;
     private PlainModel model;
     private String name;
-    private int step;
+    private int calls;
 
     public static void main(String[] args) {
+        Due.sentence("all promises");
         ModelTest test = new ModelTest();
         for (int run = 0; run < RUNS; run++) {
             test.run(run);
@@ -35,29 +36,27 @@ public final class ModelTest {
         int keys = between(1, 4);
         int spread = between(1, 30);
         // How seldom events come decides how far the times have gone when the sources are full.
-        int arrivals = between(10, 60);
-        for (step = 0; step < CALLS; step++) {
+        int arrivals = between(8, 40);
+        for (calls = 0; calls < CALLS; calls++) {
             int choice = random.nextInt(100);
             if (choice < arrivals) {
                 arrive(keys, spread);
-            } else if (choice < arrivals + 25) {
+            } else if (choice < arrivals + 20) {
                 read();
+            } else if (choice < arrivals + 30) {
+                rare();
             } else {
-                rareOrQuestion();
-            }
-            if (step % 16 == 0) {
-                compareAll();
+                question();
             }
         }
-        compareAll();
     }
 
     private void due(String call, int got, int want) {
-        Due.is(name + ", call " + step + ": " + call, got, want);
+        Due.is(name + ", call " + calls + ": " + call, got, want);
     }
 
     private void arrive(int keys, int spread) {
-        int time = Math.min(63, Math.max(0, step / 6 + between(-spread, spread)));
+        int time = Math.min(63, Math.max(0, calls / 6 + between(-spread, spread)));
         int code = Due.code(between(0, 2), between(0, keys - 1), time);
         int value = between(-50, 50);
         if (random.nextInt(50) == 0) {
@@ -74,50 +73,42 @@ public final class ModelTest {
         due("read(" + source + ")", x.read(source), model.read(source));
     }
 
-    private void rareOrQuestion() {
-        int choice = random.nextInt(30);
-        if (choice == 0) {
+    private void rare() {
+        int choice = random.nextInt(12);
+        if (choice < 2) {
             due("readAll()", x.readAll(), model.readAll());
-        } else if (choice < 4) {
+        } else if (choice < 8) {
             int source = between(-1, 3);
             boolean flag = random.nextBoolean();
             due("idle(" + source + ", " + flag + ")", x.idle(source, flag),
                     model.idle(source, flag));
-        } else if (choice < 6) {
+        } else if (choice < 10) {
             due("keep()", x.keep(), model.keep());
-        } else if (choice < 8) {
-            due("crash()", x.crash(), model.crash());
         } else {
-            question();
+            due("crash()", x.crash(), model.crash());
         }
     }
 
     private void question() {
-        int a = between(-2, 12);
-        int b = between(-1, 7);
-        due("position(" + a + ")", x.position(a), model.position(a));
-        due("result(" + a + ", " + b + ")", x.result(a, b), model.result(a, b));
-        due("open(" + b + ")", x.open(b), model.open(b));
-        due("pending(" + b + ")", x.pending(b), model.pending(b));
-        due("mark()", x.mark(), model.mark());
-        due("digest()", x.digest(), model.digest());
+        int n = between(-1, 4);
+        switch (random.nextInt(12)) {
+            case 0 -> due("position(" + n + ")", x.position(n), model.position(n));
+            case 1 -> due("mark()", x.mark(), model.mark());
+            case 2 -> due("results()", x.results(), model.results());
+            case 3 -> due("late()", x.late(), model.late());
+            case 4, 5 -> due("open(" + n + ")", x.open(n), model.open(n));
+            case 6, 7 -> due("pending(" + n + ")", x.pending(n), model.pending(n));
+            case 8 -> due("kept()", x.kept(), model.kept());
+            case 9 -> due("digest()", x.digest(), model.digest());
+            default -> result();
+        }
     }
 
-    private void compareAll() {
-        due("mark()", x.mark(), model.mark());
-        due("late()", x.late(), model.late());
-        due("kept()", x.kept(), model.kept());
-        due("digest()", x.digest(), model.digest());
-        due("results()", x.results(), model.results());
-        for (int i = -1; i <= model.results(); i++) {
-            for (int what = -1; what <= 7; what++) {
-                due("result(" + i + ", " + what + ")", x.result(i, what), model.result(i, what));
-            }
-        }
-        for (int n = -1; n <= 4; n++) {
-            due("position(" + n + ")", x.position(n), model.position(n));
-            due("open(" + n + ")", x.open(n), model.open(n));
-            due("pending(" + n + ")", x.pending(n), model.pending(n));
-        }
+    private void result() {
+        // One before the first and one after the last too; the latest ones most often.
+        int last = model.results();
+        int i = random.nextBoolean() ? between(-1, last) : between(Math.max(-1, last - 3), last);
+        int what = random.nextInt(10) == 0 ? between(-1, 7) : between(0, 6);
+        due("result(" + i + ", " + what + ")", x.result(i, what), model.result(i, what));
     }
 }

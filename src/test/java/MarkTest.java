@@ -51,6 +51,14 @@ public final class MarkTest {
             Due.take(x, source, 3, 21, 1);
             Due.is("mark()", x.mark(), 16);
         }
+        // The greatest stays known while another source holds the mark back.
+        StreamWindows x = new StreamWindows(0, 8, 1, 5);
+        x.idle(2, true);
+        Due.take(x, 0, 0, 20, 1);
+        Due.take(x, 0, 0, 12, 1);
+        Due.is("source 1 read none: mark()", x.mark(), -1000);
+        Due.take(x, 1, 0, 40, 1);
+        Due.is("mark(), not by the latest of source 0", x.mark(), 15);
     }
 
     private static void thatWereRead() {

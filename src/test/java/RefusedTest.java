@@ -20,19 +20,25 @@ public final class RefusedTest {
         Due.end();
     }
 
-    /** Something of everything: results, open ones, a late event, a keeping, events to be read. */
-    private static StreamWindows amid(int kind) {
+    /**
+     * Something of everything: results, open ones, a late event, a keeping, events to be read, a
+     * full source (0) and one of which all was read (2). No question has been asked.
+     */
+    private static StreamWindows amid(int kind, boolean twoIsIdle) {
         StreamWindows x = Due.following0(kind, 3, 2, 0);
         Due.take(x, 0, 0, 4, 5);
         Due.take(x, 0, 1, 12, -6);
         Due.take(x, 1, 2, 3, 7);
         x.keep();
-        for (int n = 0; n < 18; n++) {
+        for (int n = 0; n < 17; n++) {
             Due.take(x, 0, n % 4, 13 + n % 5, 8);
         }
+        x.arrive(Due.code(0, 0, 40), 12);
         x.arrive(Due.code(1, 3, 20), 9);
         x.arrive(Due.code(1, 2, 25), 10);
-        Due.take(x, 2, 1, 18, 11);
+        Due.take(x, 2, 1, 17, 11);
+        x.idle(0, !twoIsIdle);
+        x.idle(2, twoIsIdle);
         return x;
     }
 
@@ -52,33 +58,45 @@ public final class RefusedTest {
         return all;
     }
 
-    /** What questions do not tell at once: the events to be read, who is idle, what is kept. */
-    private static List<Integer> toldLater(StreamWindows x) {
+    /** What no question tells: the events to be read, and, by where the mark goes, who is idle. */
+    private static List<Integer> readOn(StreamWindows x) {
         List<Integer> all = new ArrayList<>();
+        all.add(x.arrive(Due.code(2, 2, 30), 3));
+        all.add(x.read(2));
+        all.add(x.read(0));
+        all.add(x.readAll());
         for (int source = 0; source < 3; source++) {
-            all.add(x.arrive(Due.code(source, 2, 22), 3));
+            all.add(x.arrive(Due.code(source, 2, 30), 3));
         }
-        all.add(x.readAll());
-        all.addAll(told(x));
-        all.add(x.idle(0, true));
-        all.add(x.idle(1, false));
-        all.addAll(told(x));
-        all.add(x.crash());
-        all.addAll(told(x));
-        all.add(x.readAll());
+        return all;
+    }
+
+    /** Questions come last, because one that changes something could undo what is looked for. */
+    private static List<Integer> answers(StreamWindows x, boolean crash, boolean readOn) {
+        List<Integer> all = new ArrayList<>();
+        if (crash) {
+            all.add(x.crash());
+        }
+        if (readOn) {
+            all.addAll(readOn(x));
+        }
         all.addAll(told(x));
         return all;
     }
 
     private static void changesNothing(String name, int kind, ToIntFunction<StreamWindows> call,
             int want) {
-        StreamWindows with = amid(kind);
-        StreamWindows without = amid(kind);
-        Due.is("kind " + kind + ": " + name, call.applyAsInt(with), want);
-        Due.is("kind " + kind + ": all is told the same after " + name,
-                told(with).equals(told(without)) ? 1 : 0, 1);
-        Due.is("kind " + kind + ": and later",
-                toldLater(with).equals(toldLater(without)) ? 1 : 0, 1);
+        for (int way = 0; way < 8; way++) {
+            boolean twoIsIdle = (way & 1) == 0;
+            StreamWindows with = amid(kind, twoIsIdle);
+            StreamWindows without = amid(kind, twoIsIdle);
+            String where = "kind " + kind + ", way " + way + ": ";
+            Due.is(where + name, call.applyAsInt(with), want);
+            boolean crash = (way & 2) != 0;
+            boolean readOn = (way & 4) != 0;
+            boolean same = answers(with, crash, readOn).equals(answers(without, crash, readOn));
+            Due.is(where + "the same after " + name, same ? 1 : 0, 1);
+        }
     }
 
     private static void badArrivals(int kind) {
@@ -108,7 +126,6 @@ public final class RefusedTest {
 
     private static void nothingToRead(int kind) {
         Due.sentence("Terms: A refused call changes nothing (read, NONE)");
-        changesNothing("read(0)", kind, x -> x.read(0), StreamWindows.NONE);
         changesNothing("read(2)", kind, x -> x.read(2), StreamWindows.NONE);
     }
 
@@ -124,7 +141,7 @@ public final class RefusedTest {
 
     private static void questions(int kind) {
         Due.sentence("Terms: Questions change nothing");
-        List<Integer> first = told(amid(kind));
+        List<Integer> first = told(amid(kind, true));
         changesNothing("mark()", kind, StreamWindows::mark, first.get(0));
         changesNothing("results()", kind, StreamWindows::results, first.get(1));
         changesNothing("late()", kind, StreamWindows::late, first.get(2));

@@ -13,6 +13,7 @@ public final class ResultsTest {
         orderOfEnds();
         orderOfKeys();
         orderOfSessions();
+        orderOfStarts();
         atTheEndOfTheRow();
         Due.end();
     }
@@ -186,6 +187,47 @@ public final class ResultsTest {
         Due.result("end 13, key 0", x, 2, 0, 10, 13, 1, 1, 1, 1);
         Due.result("end 13, key 1, though its start is less", x, 3, 1, 7, 13, 2, 7, 3, 4);
         Due.result("end 15", x, 4, 2, 12, 15, 1, 6, 6, 6);
+    }
+
+    /**
+     * No run has two results with the same end and key in one closing (see above; and windows with
+     * the same end have the same start), so this shows that those of one key that close at once
+     * come in the order of starts, and never two with the same end.
+     */
+    private static void orderOfStarts() {
+        Due.sentence("Terms: with the same key too in the order of starts");
+        int[] times = {15, 3, 9, 0, 12, 6};
+        for (int kind = 0; kind <= 2; kind++) {
+            for (int width = 1; width <= 3; width++) {
+                StreamWindows x = Due.following0(kind, width, 3, 20);
+                for (int time : times) {
+                    Due.take(x, 0, 3, time, 1);
+                    Due.take(x, 0, 1, time + 1, 1);
+                }
+                int closed = Due.take(x, 0, 0, 63, 1);
+                Due.is("at once", closed, x.results());
+                startsGoUp("kind " + kind + ", width " + width, x);
+            }
+        }
+    }
+
+    private static void startsGoUp(String name, StreamWindows x) {
+        for (int key = 1; key <= 3; key += 2) {
+            int before = -1;
+            for (int i = 0; i < x.results(); i++) {
+                if (x.result(i, 0) != key) {
+                    continue;
+                }
+                if (before >= 0) {
+                    boolean up = x.result(before, 1) < x.result(i, 1)
+                            && x.result(before, 2) < x.result(i, 2);
+                    Due.is(name + ", key " + key + ": results " + before + " and " + i + " go up",
+                            up ? 1 : 0, 1);
+                }
+                before = i;
+            }
+            Due.is(name + ": key " + key + " has results", before >= 0 ? 1 : 0, 1);
+        }
     }
 
     private static void atTheEndOfTheRow() {
